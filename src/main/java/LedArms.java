@@ -1418,12 +1418,7 @@ public final class LedArms {
         boolean search(Tape tape, Arm own, Arm arm, int drift, int error) {
             this.arm = arm;
             this.error = error;
-            ticks = Math.min(tape.ticks, MOST_TICKS);
-            for (int i = 0; i < ticks && i < MOST_TICKS; i++) {
-                int pose = tape.poseAt(i);
-                wantedX[i] = own.tipX(pose) + drift * i;
-                wantedY[i] = own.tipY(pose);
-            }
+            aim(tape, own, drift);
             gatherPoses();
             boolean reached = true;
             for (int i = ticks - 1; i >= 0 && reached; i--) {
@@ -1431,18 +1426,23 @@ public final class LedArms {
             }
             if (reached) {
                 trace();
-            } else {
-                seekStop();
+                return true;
             }
-            return reached;
+            // no row goes from end to end: so some tick, from the start on, is the first that none reaches
+            boolean on = true;
+            for (int i = 0; i < ticks && on; i++) {
+                on = fillTick(i, i == 0 ? NONE : i - 1);
+                stopped = i;
+            }
+            return false;
         }
 
-        private void seekStop() {
-            boolean reached = true;
-            stopped = NONE;
-            for (int i = 0; i < ticks && reached; i++) {
-                reached = fillTick(i, i == 0 ? NONE : i - 1);
-                stopped = i;
+        private void aim(Tape tape, Arm own, int drift) {
+            ticks = Math.min(tape.ticks, MOST_TICKS);
+            for (int i = 0; i < ticks && i < MOST_TICKS; i++) {
+                int pose = tape.poseAt(i);
+                wantedX[i] = own.tipX(pose) + drift * i;
+                wantedY[i] = own.tipY(pose);
             }
         }
 
