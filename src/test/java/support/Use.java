@@ -53,4 +53,42 @@ final class Use {
         }
         return number;
     }
+
+    /** A new arm with joints of length, low, high, speed each; -9 if it can't be. */
+    static int arm(LedArms x, int baseX, int baseY, int... joints) {
+        int number = x.arm(baseX, baseY);
+        for (int i = 0; i + 3 < joints.length; i += 4) {
+            if (x.joint(number, joints[i], joints[i + 1], joints[i + 2], joints[i + 3]) < 0) {
+                return -9;
+            }
+        }
+        return number;
+    }
+
+    /** An object with one arm at 5, 5 with one joint of length 4: each direction's tip is on a spot of its own. */
+    static LedArms painter() {
+        LedArms x = new LedArms();
+        arm(x, 5, 5, 4, 0, 15, 3);
+        return x;
+    }
+
+    /** All that calls which change nothing tell of an object, but the bytes: some 20 calls and 2 for each tick. */
+    static String state(LedArms x) {
+        StringBuilder s = new StringBuilder();
+        for (int i = 0; i < 6; i++) {
+            s.append(x.count(i)).append(' ');
+        }
+        for (int i = 0; i < 4; i++) {
+            s.append(x.thick(0, 0, 15, 15, i)).append(' ');
+        }
+        s.append("fault ").append(x.fault(0)).append(' ').append(x.fault(1));
+        s.append(" stop ").append(x.stop()).append(" way ").append(x.way()).append(" met");
+        for (int k = 0; x.met(k) >= 0; k++) {
+            s.append(' ').append(x.met(k));
+        }
+        for (int t = 0; t < x.count(1); t++) {
+            s.append(" tape ").append(x.about(t, 0)).append(": ").append(ticks(x, t));
+        }
+        return s.toString();
+    }
 }
