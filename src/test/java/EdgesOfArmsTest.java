@@ -14,6 +14,7 @@ public final class EdgesOfArmsTest {
         noJointMoreOnceTheArmHasTapes();
         aRefusedJointLeavesTheArm();
         placesAreWithinTheEnds();
+        theFirstAndTheLastPose();
         jointsThatThereArentAreAt0();
         directionsAreModulo16();
         pointsAreOneMoreThanJoints();
@@ -162,6 +163,23 @@ public final class EdgesOfArmsTest {
             DUE.is("hop to " + pose, x.hop(0, 50, pose), -1);
             DUE.is("hop from " + pose, x.hop(0, pose, 50), -1);
         }
+    }
+
+    /** POSES are 0 .. 4095, if all ENDS are as far as can be. */
+    private static void theFirstAndTheLastPose() {
+        LedArms x = new LedArms();
+        Use.arm(x, 5, 5, 1, 0, 15, 1, 1, 0, 15, 1, 1, 0, 15, 1);
+        x.tape(0);
+        int[] beyond = {-1, 4096, 4097, -4096, 8191, 8192, 65536, Integer.MIN_VALUE, Integer.MAX_VALUE};
+        for (int pose : beyond) {
+            DUE.is("point of " + pose, x.point(0, pose, 0, 0), NO_POINT);
+            DUE.is("hop from " + pose, x.hop(0, pose, 0), -1);
+            DUE.is("hop to " + pose, x.hop(0, 0, pose), -1);
+            DUE.is("lead to " + pose, x.lead(0, pose, 0), -1);
+        }
+        DUE.is("hop from the first to the last", x.hop(0, 0, 4095), 15);
+        DUE.is("the last one's point", x.point(0, 4095, 1, 0), 5924);
+        DUE.is("lead to the last", x.lead(0, 4095, 0), 1);
     }
 
     private static LedArms threeJoints() {

@@ -1,6 +1,6 @@
 import java.util.Arrays;
 
-/** The edges that the document names for two arms in one booth: meeting and sharing (promises 21, 22, 23). */
+/** The edges that the document names for two arms in one booth: meeting (promises 21, 22). */
 public final class EdgesOfBoothTest {
     private static final Due DUE = new Due("EdgesOfBoothTest");
 

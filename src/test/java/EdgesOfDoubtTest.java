@@ -13,6 +13,8 @@ public final class EdgesOfDoubtTest {
         paintNotTicks();
         lostPaintIsNone();
         nozzleAndSprayCount();
+        theCornerSpotIsASpot();
+        jointsAtTheirEnds();
         sureIfOneJointAndNotNone();
         theLeastAndTheGreatestT();
         jointsAsBits();
@@ -28,6 +30,7 @@ public final class EdgesOfDoubtTest {
         withoutWear();
         ticksAtTheirTimes();
         nothingIsMissing();
+        theCornerMayBeMissing();
         noSuchCut();
         DUE.end();
     }
@@ -154,6 +157,52 @@ public final class EdgesOfDoubtTest {
         DUE.is("4 times 3 by 10 is 1", x.suspects(0, 0, 0, 2), 0);
         x.nozzle(0);
         DUE.is("nozzle 0", x.suspects(0, 0, 0, 0), 13);
+    }
+
+    /** PAINT on SPOT 0 0 is compared as all other is, each time anew. */
+    private static void theCornerSpotIsASpot() {
+        LedArms x = new LedArms();
+        Use.arm(x, 4, 0, 4, 0, 15, 3);
+        // 8: 0 0; 5: 2468 3696
+        Use.tape(x, 0, 1, 8, 5);
+        x.wear(0, 0, 0, 1, 0);
+        // 8 8: both on the corner: each lag, since 0 or 1; slack goes down at once
+        told("two on the corner", x, 0, 6, 1, 0, 0, 0, 1);
+        x.wear(0, 0, 0, 0, 0);
+        // one on it: as told, and each slack
+        told("one on the corner", x, 0, 7, 1, 1, -1, -1, -1);
+        LedArms y = new LedArms();
+        Use.arm(y, 4, 0, 4, 0, 15, 3);
+        // 0: 8 0, 3: 5532, 2: 6828, 1: 7696; by an offset of 8000 all but 0 are lost
+        Use.tape(y, 0, 1, 0, 3);
+        y.wear(0, 0, 0, 1, 0);
+        int[] due = {7, 1, 0, 0, 0, 1};
+        for (int what = 0; what < 6; what++) {
+            DUE.is("the corner alone, what " + what, y.suspects(0, 0, 8000, what), due[what]);
+        }
+    }
+
+    /** A JOINT at its low and at its high end lays PAINT as everywhere. */
+    private static void jointsAtTheirEnds() {
+        int[][] ends = {{0, 15}, {2, 8}, {6, 12}, {9, 15}};
+        for (int[] e : ends) {
+            LedArms x = new LedArms();
+            Use.arm(x, 8, 8, 4, e[0], e[1], 3);
+            int low = e[0];
+            int high = e[1];
+            Use.tape(x, 0, 1, low, low + 3, low, low);
+            DUE.is("none is among them at " + low, x.suspects(0, 0, 0, 2), 1);
+            Use.tape(x, 0, 1, high - 3, high);
+            // at tick 1: as told, slacks since 1; a lag has high less 3, slacks since 0 have less
+            told("up to " + high, x, 1, 4, 1, 1, -1, -1, -1);
+            x.wear(0, 0, 1, 3, 0);
+            // high less 3 twice: lags since 0 and 1, slack 3 since 0
+            told("not up to " + high, x, 1, 7, 1, 0, 0, 0, 1);
+            Use.tape(x, 0, 1, low + 3, low);
+            x.wear(0, 0, 0, 2, 1);
+            // low and 3 twice: lags since 0 and 1
+            told("not down to " + low, x, 2, 6, 1, 0, 0, 0, 1);
+        }
     }
 
     /** "SURE: just one JOINT is among them, and not none." */
@@ -418,6 +467,24 @@ public final class EdgesOfDoubtTest {
         cut("now it is missing", x, 9, 1, 1);
         x.play(0, 0, 0);
         cut("now it is there", x, 9, -2, -2);
+    }
+
+    /** SPOT 0 0 is one of those on which PAINT may be missing, each time anew. */
+    private static void theCornerMayBeMissing() {
+        LedArms x = new LedArms();
+        Use.arm(x, 4, 0, 4, 0, 15, 3);
+        // 8: 0 0
+        Use.tape(x, 0, 3, 8, 5, 8);
+        cut("bar 3", x, 3, 0, 1);
+        cut("bar 6", x, 6, 0, 2);
+        cut("bar 9", x, 9, -2, -2);
+        x.play(0, 0, 0);
+        cut("6 are there", x, 6, -2, -2);
+        cut("none is missing", x, 3, -2, -2);
+        x.clean();
+        x.play(0, 1000, 0);
+        // 0 0, 1468 3696, -2000: 3 on the corner, 3 on 1 3, one lost
+        cut("3 of 6", x, 6, 0, 0);
     }
 
     /** "NONE: no such ones." */

@@ -10,7 +10,9 @@ public final class EdgesOfFollowingTest {
         driftsAreFromMinus2000To2000();
         driftTimesTIsAddedToX();
         eachHopIs1AtMost();
+        eachJointMovesAlone();
         posesAreWithinTheEnds();
+        posesOfThatArmAlone();
         theLeastWay();
         wayIsOverAllJoints();
         theFirstByNumbersOfPoses();
@@ -26,6 +28,7 @@ public final class EdgesOfFollowingTest {
         sprayAsItIs();
         oneTickAndForty();
         wearIsNotFollowed();
+        allRowsOfSmallArms();
         DUE.end();
     }
 
@@ -123,6 +126,42 @@ public final class EdgesOfFollowingTest {
         }
     }
 
+    /** One JOINT moves by its SPEED and the others have one place: whichever it is, it is followed. */
+    private static void eachJointMovesAlone() {
+        for (int moves = 0; moves < 3; moves++) {
+            for (int speed = 1; speed <= 3; speed++) {
+                LedArms x = new LedArms();
+                x.arm(6, 6);
+                int pose = 0;
+                for (int j = 0; j < 3; j++) {
+                    x.joint(0, 2, j == moves ? 0 : 5, j == moves ? 15 : 5, j == moves ? speed : 3);
+                    pose += (j == moves ? 8 : 5) << 4 * j;
+                }
+                int step = speed << 4 * moves;
+                int t = Use.tape(x, 0, 0, pose, pose + step, pose + step, pose, pose - step);
+                DUE.is("joint " + moves + " by " + speed, x.follow(t, 0, 0, 0), 1);
+                DUE.same("its poses", Use.ticks(x, 1), Use.ticks(x, t));
+                DUE.is("its way", x.way(), 3 * speed);
+            }
+        }
+    }
+
+    /** POSES are those of the ARM that follows, whatever ARM did so before. */
+    private static void posesOfThatArmAlone() {
+        LedArms x = new LedArms();
+        Use.arm(x, 5, 5, 4, 0, 15, 3);
+        Use.arm(x, 5, 5, 4, 0, 7, 3);
+        int near = Use.tape(x, 0, 0, 7, 7);
+        int far = Use.tape(x, 0, 0, 8, 8);
+        DUE.is("the farther one by arm 0", x.follow(far, 0, 0, 0), 2);
+        DUE.is("by arm 1", x.follow(far, 1, 0, 0), -2);
+        DUE.is("it stops", x.stop(), 0);
+        DUE.is("the nearer one by arm 1", x.follow(near, 1, 0, 0), 3);
+        DUE.is("the farther one by arm 0 again", x.follow(far, 0, 0, 0), 4);
+        DUE.is("shared, arm 1 can't", x.share(2, 0, 1), 0);
+        DUE.is("shared, the nearer one is arm 1's", x.share(3, 0, 1), 1);
+    }
+
     /** POSES are of the ARM that follows: "each within its ENDS". */
     private static void posesAreWithinTheEnds() {
         LedArms x = new LedArms();
@@ -133,6 +172,25 @@ public final class EdgesOfFollowingTest {
             int t = Use.tape(x, 0, 0, pose);
             DUE.is("pose " + pose, x.follow(t, 1, 0, 0) >= 0, pose >= 3 && pose <= 6);
         }
+        int t = Use.tape(x, 0, 0, 3, 4, 6, 5, 3);
+        int made = x.follow(t, 1, 0, 0);
+        DUE.same("on the way no place is beyond an end", Use.ticks(x, made), "3:0 4:0 6:0 5:0 3:0");
+        int up = Use.tape(x, 0, 0, 6, 7);
+        DUE.is("beyond the high end at tick 1", x.follow(up, 1, 0, 0), -2);
+        DUE.is("stop", x.stop(), 1);
+        thePoseOfAllHighEnds();
+    }
+
+    /** POSES are 0 .. 4095: the last of them is one. */
+    private static void thePoseOfAllHighEnds() {
+        LedArms x = new LedArms();
+        Use.arm(x, 5, 5, 6, 0, 15, 3, 3, 0, 15, 3, 1, 0, 15, 3);
+        int last = 15 + 16 * 15 + 256 * 15;
+        // no other pose has this tip
+        int t = Use.tape(x, 0, 1, last, last - 1, last);
+        DUE.is("follow", x.follow(t, 0, 0, 0), 1);
+        DUE.same("ticks", Use.ticks(x, 1), last + ":1 " + (last - 1) + ":1 " + last + ":1");
+        DUE.is("way", x.way(), 2);
     }
 
     /** "those with the least way (sum .. of how far places are apart from those a TICK ahead)" */
@@ -246,6 +304,16 @@ public final class EdgesOfFollowingTest {
         int u = Use.tape(y, 0, 0, 0, 3, 4, 1);
         DUE.is("a gap", y.follow(u, 1, 0, 0), -2);
         DUE.is("at tick 2", y.stop(), 2);
+        // each tick has a near pose; too far from that of the tick ahead, although not from others
+        int[][] rows = {{4, 6, 6, 6}, {4, 6, 5, 4}, {5, 4, 6, 6}, {5, 4, 4, 6, 6}, {4, 5, 4, 6, 5}};
+        int[] stops = {1, 1, 2, 3, 3};
+        for (int i = 0; i < rows.length; i++) {
+            LedArms z = new LedArms();
+            Use.arm(z, 5, 5, 2, 0, 15, 3);
+            Use.arm(z, 5, 5, 2, 0, 15, 1);
+            DUE.is("a step of 2", z.follow(Use.tape(z, 0, 0, rows[i]), 1, 0, 0), -2);
+            DUE.is("stops at it", z.stop(), stops[i]);
+        }
     }
 
     /** "NONE: no such ones" */
@@ -371,5 +439,117 @@ public final class EdgesOfFollowingTest {
         x.wear(1, 0, 1, 3, 0);
         DUE.is("follow", x.follow(t, 1, 0, 0), 1);
         DUE.same("as told", Use.ticks(x, 1), "0:0 3:0 6:0");
+    }
+
+    private static final int[][] SMALL = {
+        {1, 0, 2, 1, 1, 0, 2, 1, 1, 0, 2, 1},
+        {2, 3, 5, 1, 1, 6, 8, 2, 2, 1, 3, 3},
+        {3, 14, 15, 1, 1, 0, 3, 1, 1, 13, 15, 1},
+        {1, 5, 6, 2, 3, 5, 6, 2, 2, 9, 12, 1},
+        {2, 0, 5, 1, 1, 0, 3, 1}
+    };
+
+    /** Each row of POSES that there is, one by one, for ARMS with few of them: "those with the least way", and the first. */
+    private static void allRowsOfSmallArms() {
+        int[][] told = {{4, 6, 9, 10}, {0, 0, 3, 4}, {12, 11, 8, 6}, {9, 9, 9, 9}};
+        for (int[] joints : SMALL) {
+            for (int[] tape : told) {
+                for (int error = 0; error <= 2000; error += 400) {
+                    oneSmallArm(joints, tape, error, 0);
+                    oneSmallArm(joints, tape, error, error - 900);
+                }
+            }
+        }
+    }
+
+    private static void oneSmallArm(int[] joints, int[] tape, int error, int drift) {
+        LedArms x = new LedArms();
+        Use.arm(x, 6, 6, 2, 0, 15, 3);
+        Use.arm(x, 6, 6, joints);
+        int t = Use.tape(x, 0, 0, tape);
+        EveryRow all = new EveryRow(joints);
+        for (int i = 0; i < tape.length; i++) {
+            all.want(x.look(t, i, 2) + drift * i, x.look(t, i, 3), error);
+        }
+        String when = Arrays.toString(joints) + " on " + Arrays.toString(tape) + " within " + error + " by " + drift;
+        all.tryFrom(0, -1, 0, "");
+        boolean some = all.deepest == tape.length;
+        DUE.is(when, x.follow(t, 1, drift, error), some ? 1 : -2);
+        DUE.is(when + ", stop", x.stop(), some ? -1 : all.deepest);
+        DUE.is(when + ", way", x.way(), some ? all.leastWay : -1);
+        if (some) {
+            DUE.same(when + ", poses", Use.ticks(x, 1), all.first.trim());
+        }
+    }
+
+    /** Tries the rows of an arm at 6, 6 in the order of their numbers, so that the first of the least stays. */
+    private static final class EveryRow {
+        private final int[] joints;
+        private final java.util.List<int[]> wanted = new java.util.ArrayList<>();
+        private int deepest;
+        private int leastWay = Integer.MAX_VALUE;
+        private String first = "";
+
+        EveryRow(int[] joints) {
+            this.joints = joints;
+        }
+
+        void want(int tipX, int tipY, int error) {
+            wanted.add(new int[] {tipX, tipY, error});
+        }
+
+        void tryFrom(int tick, int before, int way, String row) {
+            deepest = Math.max(deepest, tick);
+            if (tick == wanted.size()) {
+                if (way < leastWay) {
+                    leastWay = way;
+                    first = row;
+                }
+                return;
+            }
+            for (int pose = 0; pose < 4096; pose++) {
+                int step = isPose(pose) && isNear(pose, wanted.get(tick)) ? step(before, pose) : -1;
+                if (step >= 0) {
+                    tryFrom(tick + 1, pose, way + step, row + " " + pose + ":0");
+                }
+            }
+        }
+
+        private boolean isPose(int pose) {
+            for (int j = 0; j < 3; j++) {
+                int place = pose >> 4 * j & 15;
+                boolean there = 4 * j < joints.length;
+                if (there ? place < joints[4 * j + 1] || place > joints[4 * j + 2] : place != 0) {
+                    return false;
+                }
+            }
+            return true;
+        }
+
+        private boolean isNear(int pose, int[] want) {
+            int[] cos = {1000, 924, 707, 383, 0, -383, -707, -924, -1000, -924, -707, -383, 0, 383, 707, 924};
+            int tipX = 6000;
+            int tipY = 6000;
+            int turned = 0;
+            for (int j = 0; 4 * j < joints.length; j++) {
+                turned += pose >> 4 * j & 15;
+                tipX += joints[4 * j] * cos[turned % 16];
+                tipY += joints[4 * j] * cos[(turned + 12) % 16];
+            }
+            return Math.abs(tipX - want[0]) <= want[2] && Math.abs(tipY - want[1]) <= want[2];
+        }
+
+        /** How far all places are apart; -1 if one is farther than its speed. */
+        private int step(int before, int pose) {
+            int sum = 0;
+            for (int j = 0; before >= 0 && 4 * j < joints.length; j++) {
+                int far = Math.abs((before >> 4 * j & 15) - (pose >> 4 * j & 15));
+                if (far > joints[4 * j + 3]) {
+                    return -1;
+                }
+                sum += far;
+            }
+            return sum;
+        }
     }
 }

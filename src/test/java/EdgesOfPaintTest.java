@@ -17,6 +17,8 @@ public final class EdgesOfPaintTest {
         thickFromTo();
         thickOfNoSuchOnes();
         asMuchAsTheLeast();
+        theLeastMayComeLater();
+        allCornersCount();
         allPaintIsTakenOff();
         wearIsWithinItsEnds();
         aRefusedWearLeavesTheWear();
@@ -231,6 +233,9 @@ public final class EdgesOfPaintTest {
             {Integer.MIN_VALUE, 0, 5, 5, 0}, {0, 0, Integer.MAX_VALUE, 5, 0}, {0, 0, 5, 5, Integer.MAX_VALUE}};
         for (int[] b : bad) {
             DUE.is("thick " + Arrays.toString(b), x.thick(b[0], b[1], b[2], b[3], b[4]), -1);
+            for (int what = 0; what < 4 && b[4] == 0; what++) {
+                DUE.is("thick " + Arrays.toString(b) + ", what " + what, x.thick(b[0], b[1], b[2], b[3], what), -1);
+            }
         }
         int[][] fine = {{0, 0, 0, 0, 1}, {15, 15, 15, 15, 1}, {0, 0, 15, 15, 256}, {0, 15, 15, 15, 16}, {3, 4, 3, 9, 6}};
         for (int[] f : fine) {
@@ -250,6 +255,46 @@ public final class EdgesOfPaintTest {
         DUE.is("all", x.thick(0, 0, 15, 15, 3), 252);
         DUE.is("the greatest", x.thick(0, 0, 15, 15, 1), 5);
         DUE.is("all paint", x.thick(0, 0, 15, 15, 2), 15);
+    }
+
+    /** The least, and how many have as much, wherever the least is among them. */
+    private static void theLeastMayComeLater() {
+        LedArms x = Use.painter();
+        // 9 5: 5, 8 5: 3, 7 5: 1, 6 5: 1, 5 5: 3
+        int[] more = {5, 3, 1, 1, 3};
+        for (int i = 0; i < more.length; i++) {
+            x.play(Use.tape(x, 0, more[i], 0), 0, 1000 * i);
+        }
+        int[][] due = {{5, 5, 9, 5, 1, 5, 13, 2}, {5, 5, 5, 5, 3, 3, 3, 1}, {8, 5, 9, 5, 3, 5, 8, 1}, {7, 5, 9, 5, 1, 5, 9, 1},
+            {5, 5, 6, 5, 1, 3, 4, 1}, {5, 5, 7, 5, 1, 3, 5, 2}, {9, 5, 10, 5, 0, 5, 5, 1}, {9, 5, 9, 6, 0, 5, 5, 1},
+            {9, 5, 12, 6, 0, 5, 5, 7}};
+        for (int[] d : due) {
+            for (int what = 0; what < 4; what++) {
+                DUE.is("thick " + Arrays.toString(d) + ", what " + what, x.thick(d[0], d[1], d[2], d[3], what), d[4 + what]);
+            }
+        }
+    }
+
+    /** "16 by 16 SPOTS": each corner is one of all. */
+    private static void allCornersCount() {
+        LedArms x = new LedArms();
+        Use.arm(x, 10, 0, 1, 0, 0, 1);
+        Use.arm(x, 10, 15, 1, 0, 0, 1);
+        int[] offsets = {11000, -4000};
+        int sum = 0;
+        for (int i = 0; i < 4; i++) {
+            // tips at 11 0 and 11 15, brought to column 0 and to column 15
+            int t = Use.tape(x, i / 2, 1 + i, 0);
+            x.play(t, 0, offsets[i % 2]);
+            sum += 1 + i;
+            DUE.is("paint on all spots", x.count(3), sum);
+            DUE.is("spots with some", x.count(4), i + 1);
+            DUE.is("all of the whole face", x.thick(0, 0, 15, 15, 2), sum);
+            DUE.is("the greatest of the whole face", x.thick(0, 0, 15, 15, 1), 1 + i);
+            DUE.is("as much as the least", x.thick(0, 0, 15, 15, 3), 255 - i);
+        }
+        DUE.is("none lies between them", x.thick(1, 1, 14, 14, 1), 0);
+        DUE.is("taken off four", x.clean(), 4);
     }
 
     /** "All PAINT is taken off: how many SPOTS had some." */

@@ -22,6 +22,8 @@ public final class EdgesOfTapesTest {
         apartTellsTheFirstOfSeveral();
         apartOfNoSuchOnes();
         countsOfAll();
+        theTenthTapeAndTheOneBeyond();
+        tapesOf40Ticks();
         DUE.end();
     }
 
@@ -268,5 +270,71 @@ public final class EdgesOfTapesTest {
         DUE.is("paint has no end", x.count(3), 10800);
         DUE.is("on one spot", x.count(4), 1);
         DUE.is("nozzle", x.count(5), 30);
+    }
+
+    /** "TAPES, at most 10, numbered from 0 on": each call knows 9 and none knows 10. */
+    private static void theTenthTapeAndTheOneBeyond() {
+        LedArms x = painter();
+        Use.arm(x, 15, 5, 4, 0, 15, 3);
+        for (int i = 0; i < 8; i++) {
+            Use.tape(x, 0, 1, 4);
+        }
+        Use.tape(x, 1, 1, 4);
+        DUE.is("the tenth", Use.tape(x, 0, 2, 0, 3), 9);
+        DUE.is("lead 9", x.lead(9, 6, 2), 3);
+        DUE.is("lead 10", x.lead(10, 6, 2), -1);
+        DUE.same("look 9", Use.look(x, 9, 2, 0), "6");
+        DUE.same("look 10", Use.look(x, 10, 0, 0), NO_INDEX);
+        DUE.is("about 9", x.about(9, 1), 3);
+        DUE.is("about 10", x.about(10, 1), -1);
+        DUE.is("suspects 9", x.suspects(9, 0, 0, 2), 1);
+        DUE.is("suspects 10", x.suspects(10, 0, 0, 2), -2);
+        DUE.is("anew 9", x.anew(9, 0, 0, 2, 1), 2);
+        DUE.is("anew 10", x.anew(10, 0, 0, 2, 1), -1);
+        DUE.is("play 9", x.play(9, 0, 0), 6);
+        DUE.is("play 10", x.play(10, 0, 0), -1);
+        DUE.is("meet 9", x.meet(9, 8), 2);
+        DUE.is("meet 10", x.meet(10, 8), -1);
+        DUE.is("meet with 10", x.meet(9, 10), -1);
+        DUE.is("apart 9", x.apart(0, 9, 0), 4000);
+        DUE.is("apart 10", x.apart(0, 10, 0), -1);
+        DUE.is("share 9", x.share(512, 0, 0), 3);
+        DUE.is("share 10", x.share(1024, 0, 0), -1);
+        DUE.is("make 9, the eleventh", Use.make(x, "make 9;"), -1);
+        DUE.is("its fault", x.fault(0), 5);
+        DUE.is("make 10", Use.make(x, "make 10;"), -1);
+        DUE.is("its fault", x.fault(0), 3);
+    }
+
+    /** "at most 40 TICKS": the last of them counts in each call as the others do. */
+    private static void tapesOf40Ticks() {
+        LedArms x = painter();
+        Use.arm(x, 20, 20, 1, 0, 15, 3);
+        x.tape(0);
+        x.tape(0);
+        x.tape(1);
+        for (int i = 0; i < 40; i++) {
+            x.lead(0, 4, i == 39 ? 9 : 0);
+            x.lead(1, i == 39 ? 5 : 4, i == 39 ? 9 : 0);
+            x.lead(2, 0, 0);
+        }
+        DUE.same("look at 39", Use.look(x, 1, 39, 0), "5");
+        DUE.is("apart", x.apart(0, 1, 0), 1532);
+        DUE.is("at tick 39", x.apart(0, 1, 1), 39);
+        DUE.is("play", x.play(0, 0, 0), 9);
+        DUE.is("anew, from", x.anew(1, 0, 0, 9, 0), 39);
+        DUE.is("anew, to", x.anew(1, 0, 0, 9, 1), 39);
+        DUE.is("meet", x.meet(0, 2), 39);
+        DUE.is("shared", x.share(3, 0, 0), 80);
+        DUE.is("shared by both", x.share(7, 0, 1), 4);
+        DUE.is("followed", x.follow(1, 0, 0, 0), 3);
+        DUE.is("its way", x.way(), 1);
+        DUE.is("made", Use.make(x, "make 1;make 1 back;"), 2);
+        DUE.same("the first of those turned round", Use.look(x, 5, 0, 0), "5");
+        DUE.is("all ticks", x.count(2), 240);
+        x.wear(0, 0, 1, 1, 38);
+        // at tick 39 it stays at 4; so do all lags, and all slacks since 38 or earlier
+        DUE.is("suspects", x.suspects(1, 0, 0, 0), 3 * 40 + 3 * 39);
+        DUE.is("the greatest T", x.suspects(1, 0, 0, 5), 39);
     }
 }

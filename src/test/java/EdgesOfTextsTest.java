@@ -16,6 +16,7 @@ public final class EdgesOfTextsTest {
         faultOfTheLatestMake();
         blanksAre10And32();
         wordsAreWhole();
+        eachLetterOfAWordCounts();
         whatCanStandWhere();
         moreMustCome();
         numbersAreFrom0To99();
@@ -30,6 +31,7 @@ public final class EdgesOfTextsTest {
         theFirstFaultAlongTheText();
         ofOnePlaceTheLeast();
         withAFaultNoTapeIsMade();
+        theNextTextIsReadAnew();
         DUE.end();
     }
 
@@ -196,6 +198,20 @@ public final class EdgesOfTextsTest {
             faulty(ahead[i] + w.charAt(0) + " " + w.substring(1) + behind[i], 1, ahead[i].length());
         }
         made("make0from0to0back slow1dry then0;", 1);
+    }
+
+    /** "1 a TOKEN that is none": one letter changed, at each place, is another word. */
+    private static void eachLetterOfAWordCounts() {
+        String[] words = {"make", "then", "from", "to", "back", "slow", "dry"};
+        String[] ahead = {"", "make 0 ", "make 0 ", "make 0 from 0 ", "make 0 ", "make 0 ", "make 0 "};
+        String[] behind = {" 0;", " 0;", " 0 to 0;", " 0;", ";", " 1;", ";"};
+        for (int i = 0; i < words.length; i++) {
+            for (int at = 0; at < words[i].length(); at++) {
+                char[] other = words[i].toCharArray();
+                other[at]++;
+                faulty(ahead[i] + new String(other) + behind[i], 1, ahead[i].length());
+            }
+        }
     }
 
     private static void canStand(String ahead, String... tokens) {
@@ -422,6 +438,18 @@ public final class EdgesOfTextsTest {
         // a ; that can't stand there, although the tape would be too long
         faulty("make 2 slow 2 then;", 1, 18);
         faulty("make 2 slow 2 slow;", 1, 18);
+        // numbers beyond what is said, where no number can stand
+        faulty("100", 1, 0);
+        faulty("make 0 100;", 1, 7);
+        faulty("make 0 from 0 100;", 1, 14);
+        faulty("make 0 slow 2 100;", 1, 14);
+        faulty("make 0;100", 1, 7);
+        // a then that would begin a ninth part, where no then can stand
+        faulty(EIGHT + " from then 1;", 1, EIGHT.length() + 6);
+        faulty(EIGHT + " slow then 1;", 1, EIGHT.length() + 6);
+        // a tape of another arm, which there is not at all; and one that there is, with a tick that it has not
+        faulty("make 3 then 5;", 3, 12);
+        faulty("make 0 then 4 from 0 to 0;", 4, 12);
     }
 
     /** "With a FAULT no TAPE is made." */
@@ -435,5 +463,22 @@ public final class EdgesOfTextsTest {
         DUE.same("all but the fault is as it was", after.replace("fault 1 20", "fault 0 -1"), before);
         DUE.is("the next text makes the next tape", Use.make(x, "make 0 from 1 to 1;"), 1);
         DUE.same("its ticks", Use.ticks(x, 5), "2:5");
+    }
+
+    /** Whatever FAULT a text has, the next one is read as if it were the first. */
+    private static void theNextTextIsReadAnew() {
+        String[] faults = {"make", "make 0 slow 0;", "make 77;", "make 0 then 3;", "make 2 slow 2;", "make 2 slow 2 then 77;",
+            "make 2 then 2;", EIGHT + " then 1;", "make 1;make 1;make 1;make 1;make 1;make 1;", "make 0 back dry slow 2 ?"};
+        for (String text : faults) {
+            LedArms x = shop();
+            DUE.is("<" + text + ">", Use.make(x, text), -1);
+            DUE.is("behind <" + text + ">", Use.make(x, "make 0;make 5 then 3;"), -1);
+            DUE.is("its fault", x.fault(0), 4);
+            DUE.is("its place", x.fault(1), 19);
+            DUE.is("behind both", Use.make(x, "make 0;make 5 back;"), 2);
+            DUE.is("no fault", x.fault(0), 0);
+            DUE.same("the first line's ticks", Use.ticks(x, 5), "0:5 2:5 3:5 4:5");
+            DUE.same("the second line's ticks", Use.ticks(x, 6), "4:5 3:5 2:5 0:5");
+        }
     }
 }
