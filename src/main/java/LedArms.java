@@ -41,9 +41,9 @@ public final class LedArms {
     private int latestWay;
 
     public LedArms() {
-        shop = new Shop();
-        text = new Text();
-        maker = new Maker(shop, text);
+        maker = new Maker();
+        shop = maker.shop;
+        text = maker.text;
         face = new Face();
         strokes = new Strokes();
         doubt = new Doubt();
@@ -871,16 +871,19 @@ public final class LedArms {
 
         private final Shop shop;
         private final Text text;
-        private final Tape line = new Tape();
-        private final Tape part = new Tape();
+        private final Tape line;
+        private final Tape part;
         private int at;
         private boolean overfull;
         private int found;
         private int foundAt;
 
-        Maker(Shop shop, Text text) {
-            this.shop = shop;
-            this.text = text;
+        /** Makes the shop and the bytes itself, so that no constructor hands out a piece of its object. */
+        Maker() {
+            shop = new Shop();
+            text = new Text();
+            line = new Tape();
+            part = new Tape();
             foundAt = NONE;
         }
 
@@ -1826,7 +1829,7 @@ public final class LedArms {
             leastTime = FAR;
             int chosen = 0;
             int full = (1 << size) - 1;
-            for (int set = 0; set <= full; set++) {
+            for (int set = 0; set <= full && set < SETS; set++) {
                 int time = Math.max(timeAt(0, full & ~set), timeAt(1, set));
                 if (time < leastTime) {
                     leastTime = time;
